@@ -78,8 +78,8 @@ public final class LockWatch {
     private final Learnt[] boxes = new Learnt[BOXES];
     private final boolean[] boxFull = new boolean[BOXES];
     private final Ways ways = new Ways();
-    private final Watch watch = new Watch(ways);
-    private final Mender mender = new Mender(ways);
+    private final Watch watch = new Watch();
+    private final Mender mender = new Mender();
     private final Learnt trial = new Learnt();
     private final int[] changed = new int[MOST_PROGRAMS * MOST_STEPS];
     private final Found found = new Found();
@@ -1230,7 +1230,7 @@ public final class LockWatch {
 
     /** Goes through a PROGRAM alone, STEP by STEP. */
     static final class Watch {
-        private final Ways ways;
+        private final Ways ways = new Ways();
         private Plan plan;
         private Learnt learnt;
         private int program;
@@ -1241,10 +1241,6 @@ public final class LockWatch {
         /** The LOCKS that are HELD, in the order they were taken, and the NODES they were taken as. */
         private final int[] locks = new int[MOST_LOCKS];
         private final int[] nodes = new int[MOST_LOCKS];
-
-        Watch(Ways ways) {
-            this.ways = ways;
-        }
 
         /** A RUN: how many REPORTS it made. */
         int run(Plan thePlan, Learnt into, int theProgram) {
@@ -1340,12 +1336,16 @@ public final class LockWatch {
             int deed = deedOf(step);
             int lock = lockOf(step);
             if (deed < DROP) {
-                hold(lock, 2 * plan.kindOf[lock] + (deed == INNER ? 1 : 0));
+                hold(lock, nodeOf(lock, deed));
             } else if (deed == DROP) {
                 letGo(lock);
             } else {
                 context = turned(context, plan.sorts[program], deed);
             }
+        }
+
+        private int nodeOf(int lock, int deed) {
+            return 2 * plan.kindOf[lock] + (deed == INNER ? 1 : 0);
         }
 
         private void hold(int lock, int node) {
@@ -1380,7 +1380,7 @@ public final class LockWatch {
         }
 
         private void takeUp(int lock, int deed) {
-            int node = 2 * plan.kindOf[lock] + (deed == INNER ? 1 : 0);
+            int node = nodeOf(lock, deed);
             learnt.addRow(rowWith(node));
             if (deed != TRY) {
                 for (int i = 0; i < held; i++) {
@@ -1479,13 +1479,9 @@ public final class LockWatch {
         int fewest;
         /** The first EDGE of the first such set; NONE if none has to go. */
         int first;
-        private final Ways ways;
+        private final Ways ways = new Ways();
         private final int[] left = new int[NODES];
         private final int[][] rings = new int[MOST_MENDS + 1][ROW];
-
-        Mender(Ways ways) {
-            this.ways = ways;
-        }
 
         void mend(int[] next) {
             System.arraycopy(next, 0, left, 0, NODES);

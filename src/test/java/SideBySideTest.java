@@ -255,6 +255,9 @@ public final class SideBySideTest {
         LockWatch inner = Checks.watchOf(LOCKS + "lock w of b;task t on off take y drop y;hard h take y;task u inner y inner w drop w drop y;");
         Checks.due("missed(): so does another node of the kind", inner.missed(), 0);
         Checks.due("missed() if none can be", Checks.watchOf(LOCKS + "task t take x drop x;").missed(), 0);
+        LockWatch nested = Checks.watchOf(LOCKS + "lock w of a;task t take x inner w drop w drop x;task u take w inner x drop x drop w;");
+        Checks.due("all(3)", nested.all(3), 0);
+        Checks.due("missed(): both, of one kind", nested.missed(), 2);
         LockWatch two = Checks.watchOf(LOCKS + "task t off take x take z drop z drop x;task u take x drop x;hard h take z drop x;");
         Checks.due("missed()", two.missed(), 1);
     }
