@@ -258,6 +258,14 @@ public final class SideBySideTest {
         LockWatch nested = Checks.watchOf(LOCKS + "lock w of a;task t take x inner w drop w drop x;task u take w inner x drop x drop w;");
         Checks.due("all(3)", nested.all(3), 0);
         Checks.due("missed(): both, of one kind", nested.missed(), 2);
+        LockWatch other = Checks.watchOf(LOCKS + "task t on off take x drop x;hard h take x;task u take y take y drop z take z take z;");
+        other.swap(2, 0);
+        Checks.due("all(1)", other.all(1), 2);
+        Checks.due("least()", other.least(), 4);
+        Checks.due("missed(): told", other.missed(), 0);
+        LockWatch first = Checks.watchOf(LOCKS + "task t on off take x drop x;hard h take x;task u share y try y drop y;");
+        Checks.due("all(1)", first.all(1), 1);
+        Checks.due("missed(): another kind is told", first.missed(), 1);
         LockWatch two = Checks.watchOf(LOCKS + "task t off take x take z drop z drop x;task u take x drop x;hard h take z drop x;");
         Checks.due("missed()", two.missed(), 1);
     }
@@ -277,6 +285,14 @@ public final class SideBySideTest {
         Checks.due("proves(0): stuck, but for another kind", other.proves(0), 0);
         Checks.due("runs(2)", other.runs(2), 2);
         Checks.due("proves(1): no ring", other.proves(1), -1);
+        LockWatch first = Checks.watchOf(LOCKS + "task t take x take y take z drop z drop y drop x;"
+                + "task u take x take z take y drop y drop z drop x;task v take x take x;");
+        first.runs(0);
+        Checks.due("runs(1)", first.runs(1), 1);
+        Checks.due("proves(0): stuck for the first kind alone", first.proves(0), 0);
+        first.undo();
+        first.swap(0, 0);
+        Checks.due("proves(0): taken back", first.proves(0), -1);
         LockWatch like = Checks.watchOf(LOCKS + "lock w of a;lock v of b;" + guarded
                 + "task p take w take v drop v drop w;task q take v take w drop w drop v;");
         like.runs(0);

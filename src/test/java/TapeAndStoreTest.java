@@ -13,6 +13,7 @@ public final class TapeAndStoreTest {
         faultStays();
         told();
         longestText();
+        cutText();
         Checks.finish();
     }
 
@@ -244,5 +245,22 @@ public final class TapeAndStoreTest {
         Checks.due("program(5, 1)", x.program(5, 1), 12);
         Checks.due("step(5, 11, 0)", x.step(5, 11, 0), 4);
         Checks.due("lock(9)", x.lock(9), 1);
+    }
+
+    /** What was cut off, or lies behind the tape's end, is not read. */
+    private static void cutText() {
+        LockWatch x = new LockWatch();
+        int[] numbers = Checks.numbersOf("kind a;task t offing");
+        x.feed(numbers[0], numbers[1], numbers[2], numbers[3], numbers[4]);
+        x.end(17);
+        Checks.due("store()", x.store(), -1);
+        Checks.due("fault(1)", x.fault(1), 17);
+        String blanks = " ".repeat(880);
+        Checks.dueFault(blanks + "task t off take", 1, 895);
+        Checks.dueFault(blanks + "    kind a;task t on", 1, 900);
+        Checks.dueFault(blanks + "    kind a;task t of", 1, 898);
+        Checks.dueFault(blanks + "   kind a;task t tak", 1, 897);
+        Checks.dueFault(blanks + "    task t on;kind a", 1, 900);
+        Checks.dueFault(blanks + "  kind a;task t off;", 0, -1);
     }
 }

@@ -17,6 +17,7 @@ public final class WatchTest {
         sixtyReports();
         longestChain();
         chainsOfHeld();
+        manyChains();
         would();
         all();
         Checks.finish();
@@ -341,6 +342,51 @@ public final class WatchTest {
         Checks.due("about(5)", x.about(5), 5);
         x.undo();
         Checks.due("about(6)", x.about(6), 2);
+    }
+
+    /** Six programs of ten takes, each begun with another kind: no two rows are like. */
+    private static void manyChains() {
+        StringBuilder text = new StringBuilder();
+        for (int k = 0; k < 8; k++) {
+            text.append("kind k").append((char) ('a' + k)).append(';');
+        }
+        for (int l = 0; l < 10; l++) {
+            text.append("lock ").append((char) ('a' + l)).append(" of k").append((char) ('a' + l % 8)).append(';');
+        }
+        for (int p = 0; p < 6; p++) {
+            text.append("task p").append((char) ('a' + p));
+            for (int l = 0; l < 10; l++) {
+                text.append(" take ").append((char) ('a' + (p + l) % 10));
+            }
+            text.append(';');
+        }
+        LockWatch x = Checks.watchOf(text.toString());
+        for (int p = 0; p < 6; p++) {
+            Checks.due("would(" + p + ", 2)", x.would(p, 2), 10);
+            x.runs(p);
+            Checks.due("about(5)", x.about(5), 10 * p + 10);
+        }
+        x.runs(2);
+        Checks.due("about(6)", x.about(6), 10);
+        x.swap(5, 8);
+        Checks.due("would(5, 2): the last two rows", x.would(5, 2), 2);
+        x.runs(5);
+        Checks.due("about(5)", x.about(5), 62);
+        Checks.due("about(6)", x.about(6), 18);
+        x.swap(4, 6);
+        x.runs(4);
+        Checks.due("about(5): four more", x.about(5), 66);
+        x.image(0);
+        x.forget();
+        Checks.due("about(5)", x.about(5), 0);
+        x.undo();
+        Checks.due("about(5)", x.about(5), 66);
+        x.undo();
+        Checks.due("about(5)", x.about(5), 62);
+        x.back(0);
+        x.runs(4);
+        Checks.due("about(5)", x.about(5), 66);
+        Checks.due("about(6)", x.about(6), 34);
     }
 
     private static void would() {

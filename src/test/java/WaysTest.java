@@ -108,6 +108,9 @@ public final class WaysTest {
         LockWatch x = withEdges("wz zy yw", "zx xy");
         Checks.due("mends(0): zy is in both rings? zx xy goes round it", x.mends(0), 1);
         Checks.due("mends(1): yw", x.mends(1), 16 * 2 + 6);
+        LockWatch shared = withEdges("vx xw wv", "vy yw");
+        Checks.due("mends(0)", shared.mends(0), 1);
+        Checks.due("mends(1): the one in both rings", shared.mends(1), 16 * 6 + 8);
         LockWatch none = withEdges("xy yz xz");
         Checks.due("mends(0)", none.mends(0), 0);
         Checks.due("mends(1)", none.mends(1), -1);
