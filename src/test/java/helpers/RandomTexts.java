@@ -23,10 +23,12 @@ final class RandomTexts {
             text.append("lock ").append((char) ('k' + i)).append(" of ").append((char) ('a' + chance.nextInt(kinds))).append(';');
         }
         int programs = 1 + chance.nextInt(mostPrograms);
+        boolean orders = chance.nextInt(3) == 0;
         for (int i = 0; i < programs; i++) {
             text.append(SORTS[i == 0 && chance.nextInt(8) > 0 ? 0 : chance.nextInt(SORTS.length)]);
             text.append(" p").append((char) ('a' + i));
-            for (String step : steps(1 + chance.nextInt(mostSteps), locks)) {
+            boolean orderly = orders && mostSteps > 4;
+            for (String step : orderly ? nested(mostSteps, locks) : steps(1 + chance.nextInt(mostSteps), locks)) {
                 text.append(' ').append(step);
             }
             text.append(chance.nextInt(3) == 0 ? ";\n" : ";");
@@ -57,6 +59,27 @@ final class RandomTexts {
             } else {
                 steps.add(new String[] {"off", "on", "mask", "open"}[chance.nextInt(4)]);
             }
+        }
+        return steps;
+    }
+
+    /** Locks taken one in another, none twice: what waits here waits for others. */
+    private List<String> nested(int mostSteps, int locks) {
+        List<String> steps = new ArrayList<>();
+        if (chance.nextInt(3) > 0) {
+            steps.add("off");
+        }
+        List<Integer> held = new ArrayList<>();
+        int depth = 2 + chance.nextInt(mostSteps / 2 - 1);
+        for (int tries = 0; tries < 9 && held.size() < depth && steps.size() + held.size() < mostSteps - 1; tries++) {
+            int lock = chance.nextInt(locks);
+            if (!held.contains(lock)) {
+                steps.add((chance.nextInt(5) == 0 ? "share " : "take ") + name(lock));
+                held.add(lock);
+            }
+        }
+        while (!held.isEmpty()) {
+            steps.add("drop " + name(held.remove(held.size() - 1)));
         }
         return steps;
     }
