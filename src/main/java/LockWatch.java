@@ -1593,7 +1593,9 @@ public final class LockWatch {
         /** Where MOMENTS are, by their mixed numbers; what an earlier search left has another turn. */
         private final int[] table = new int[TABLE];
         private int turn;
-        private final int[] coming = new int[MOST_PROGRAMS * (MOST_STEPS + 1)];
+        /** Of each STEP which sorts of PROGRAMS can come ahead of it. */
+        private final int[] coming = new int[MOST_PROGRAMS * MOST_STEPS];
+        /** Of each processor the LOCK for which it WAITS, and the processors on which that is had. */
         private final int[] locks = new int[MOST_PROGRAMS];
         private final int[] waits = new int[MOST_PROGRAMS];
         private final Ways ways = new Ways();
@@ -1631,7 +1633,7 @@ public final class LockWatch {
             for (int program = 0; program < plan.programs; program++) {
                 int context = contextOf(plan.sorts[program]);
                 for (int i = 0; i < plan.lengths[program]; i++) {
-                    coming[program * (MOST_STEPS + 1) + i] = whatCanCome(context);
+                    coming[program * MOST_STEPS + i] = whatCanCome(context);
                     int deed = deedOf(steps[program * MOST_STEPS + i]);
                     context = turned(context, plan.sorts[program], deed);
                 }
@@ -1648,7 +1650,7 @@ public final class LockWatch {
                 if (waitsFor(state, owners[moment], task) == NONE && doStep(moment, task, top)) {
                     findRing(task);
                 }
-                int sorts = coming[top * (MOST_STEPS + 1) + doneBy(state, top)];
+                int sorts = coming[top * MOST_STEPS + doneBy(state, top)];
                 for (int who = 0; who < plan.programs && outcome == UNKNOWN; who++) {
                     if (has(comers, who) && has(sorts, plan.sorts[who]) && letCome(moment, task, who)) {
                         findRing(task);
