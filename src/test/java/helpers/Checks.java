@@ -2,6 +2,7 @@
 final class Checks {
     private static int wrong = 0;
     private static int asked = 0;
+    private static String test = "";
 
     private Checks() {
     }
@@ -10,8 +11,13 @@ final class Checks {
         asked++;
         if (got != want) {
             wrong++;
-            System.out.println(call + " answered " + got + ", due is " + want);
+            System.out.println(test + call + " answered " + got + ", due is " + want);
         }
+    }
+
+    /** Begins a test: its name, with the promise's number, stands ahead of each wrong answer. */
+    static void test(String name) {
+        test = name + ": ";
     }
 
     static void due(String call, boolean got, boolean want) {
@@ -61,6 +67,15 @@ final class Checks {
         }
         due("fault(0) of '" + text + "'", x.fault(0), fault);
         due("fault(1) of '" + text + "'", x.fault(1), place);
+    }
+
+    /** The moments of all programs of a text, without the bound of 4,000: by the model. */
+    static void dueMoments(String text, int moments) {
+        Model m = new Model();
+        m.mostMoments = 9000;
+        m.tape.append(text);
+        m.store();
+        due("moments by the model", m.stuck((1 << m.about(2)) - 1, 2), moments);
     }
 
     static void finish() {

@@ -62,6 +62,8 @@ final class Model {
         }
     }
 
+    /** So many moments are told; a test may raise it to see how many there would be. */
+    int mostMoments = 4000;
     final StringBuilder tape = new StringBuilder();
     int kinds = 0;
     List<Integer> kindOf = new ArrayList<>();
@@ -907,7 +909,7 @@ final class Model {
                 if (!seen.add(m.key())) {
                     continue;
                 }
-                if (seen.size() > 4000) {
+                if (seen.size() > mostMoments) {
                     o.stuck = 2;
                     return o;
                 }
