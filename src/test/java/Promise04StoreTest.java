@@ -9,6 +9,7 @@ public final class Promise04StoreTest {
         howManyPrograms();
         theTapeIsEmptyThen();
         nothingIsLeftOfWhatWas();
+        oneBehindAnother();
         noActsAreKept();
         boxesAreEmpty();
         ofAnEmptyTape();
@@ -50,6 +51,26 @@ public final class Promise04StoreTest {
                 Twins.dueAlike(state.name() + ": store() of '" + text + "'", anew,
                         state.live().andThen(x -> x.end(0)).andThen(anew));
             }
+        }
+    }
+
+    /** A store is as in a new object, also the third and the fourth, and whatever was asked ahead. */
+    private static void oneBehindAnother() {
+        Checks.test("promise 4, one store behind another");
+        String[] texts = {States.TEXT, States.TEXT.replace("hard h", "task h"), States.TEXT.replace("task u", "soft u"),
+            Texts.kindsAndLocks(2) + Texts.tasks("take la take lb", "take lb take la", Texts.ons(12)), States.TEXT, "task t on;", ""};
+        Consumer<LockWatch> life = x -> { };
+        for (String text : texts) {
+            Consumer<LockWatch> anew = x -> States.store(x, text);
+            life = life.andThen(anew);
+            Twins.dueAlike("stores up to '" + text + "'", anew, life);
+            life = life.andThen(x -> {
+                x.least();
+                x.runs(0);
+                x.stuck(3, 0);
+                x.move(3, 0, 0);
+                x.image(1);
+            });
         }
     }
 

@@ -63,6 +63,12 @@ public final class Promise16WayTest {
         String[] steps = {"take la take lb drop la take lc drop lb take ld drop lc take le drop ld take lf",
             "take lf take lg drop lf take lh drop lg inner la drop lh inner lb drop la inner lc",
             "inner lc inner ld drop lc inner le drop ld inner lf drop le inner lg drop lf inner lh", "inner lh take la"};
+        LockWatch open = ran(Texts.kindsAndLocks(8) + Texts.tasks(steps[0], steps[1], steps[2]));
+        Checks.due("way(0, 15, -1) without the ring", open.way(0, 15, -1), 15);
+        Checks.due("way(15, 0, -1)", open.way(15, 0, -1), -1);
+        for (int node = 0; node < 16; node++) {
+            Checks.due("way(" + node + ", " + node + ", -1) without the ring", open.way(node, node, -1), -1);
+        }
         LockWatch x = ran(Texts.kindsAndLocks(8) + Texts.tasks(steps));
         int[] nodes = {0, 2, 4, 6, 8, 10, 12, 14, 1, 3, 5, 7, 9, 11, 13, 15, 0};
         Checks.due("way(0, 15, -1)", x.way(0, 15, -1), 15);

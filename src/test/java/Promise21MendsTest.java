@@ -7,6 +7,7 @@ public final class Promise21MendsTest {
         oneForManyRings();
         theFirstOfTheFirstSet();
         theLeastAndTheGreatestEdge();
+        throughAllNodes();
         noneForAnotherWhat();
         Checks.finish();
     }
@@ -100,6 +101,20 @@ public final class Promise21MendsTest {
         due(with("Ha", "aH"), 1, 15);
         due(with("aH", "bH", "cH", "Ha", "Hb", "Hc"), 3, 15);
         due(with("ab", "ac", "bd", "cd", "dH", "Ha"), 1, 16 * 6 + 15);
+    }
+
+    private static void throughAllNodes() {
+        Checks.test("promise 21, a way and a ring through all sixteen nodes");
+        String[] steps = {"take la take lb drop la take lc drop lb take ld drop lc take le drop ld take lf",
+            "take lf take lg drop lf take lh drop lg inner la drop lh inner lb drop la inner lc",
+            "inner lc inner ld drop lc inner le drop ld inner lf drop le inner lg drop lf inner lh", "inner lh take la"};
+        LockWatch x = Checks.watchOf(Texts.kindsAndLocks(8) + Texts.tasks(steps));
+        for (int p = 0; p < 3; p++) {
+            x.runs(p);
+        }
+        due(x, 0, -1);
+        x.runs(3);
+        due(x, 1, 2);
     }
 
     private static void noneForAnotherWhat() {

@@ -51,6 +51,8 @@ public final class Promise22OrderTest {
         Checks.test("promise 22, each time the least");
         dueOrder(ran(Texts.kindsAndLocks(4) + Texts.tasks("take lc take la drop lc drop la", "take lb take ld")), 2, 4, 0, 6);
         dueOrder(ran(Texts.kindsAndLocks(4) + Texts.tasks("take ld take la drop ld drop la take lb take lc")), 2, 4, 6, 0);
+        dueOrder(ran(Texts.kindsAndLocks(3) + Texts.tasks("take lc take la drop lc take lb")), 4, 0, 2);
+        dueOrder(ran(Texts.kindsAndLocks(8) + Texts.tasks("inner lh take la drop lh take lg")), 15, 0, 12);
     }
 
     private static void noneIfThereIsARing() {

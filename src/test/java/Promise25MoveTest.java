@@ -105,6 +105,11 @@ public final class Promise25MoveTest {
             dueMoves(x, 3, 0, 10);
             x.stuck(1, 0);
             dueMoves(x, 4, 20, 20);
+            dueMoves(x, 7, 0, 10);
+            Checks.due("eased(0, 0): the third can be yet", x.eased(0, 0), 0);
+            dueMoves(x, 7, 0, 10);
+            Checks.due("eased(2, 0)", x.eased(2, 0), 0);
+            dueMoves(x, 7, 0, 10);
         }
     }
 }

@@ -48,17 +48,23 @@ public final class Promise28MissedTest {
         Checks.test("promise 28, reports 1 to 7 count");
         String[] more = {"task u off take la try la drop la;", "lock lc of ka;task u off take la take lc drop lc drop la;",
             "task u off take la take lb drop lb drop la;task v off take lb try la drop la take la drop la drop lb;",
-            "task u take la drop la;", "soft s off take la drop la;task u off on mask open take la drop la;",
+            "task u take la drop la;", "soft s off inner la drop la;task u inner la drop la;",
             "task u off take la take lb drop lb drop la;task v take lb drop lb;",
-            "task u off take lb take la drop la drop lb;soft s off try lb drop lb;task v try la drop la;"};
+            "task u off take lb inner la drop la drop lb;soft s off try lb drop lb;task v inner la drop la;"};
         for (int sort = 1; sort <= 7; sort++) {
             LockWatch x = Checks.watchOf(KEPT + more[sort - 1]);
-            Checks.due("all(" + sort + ") > 0", x.all(sort) > 0, true);
+            for (int other = 1; other <= 7; other++) {
+                Checks.due("all(" + other + "), with a report " + sort, x.all(other), other == sort ? 1 : 0);
+            }
             Checks.due("least()", x.least(), 3);
             Checks.due("missed(), with a report " + sort, x.missed(), 0);
         }
         LockWatch inner = Checks.watchOf(KEPT + "task u off inner la try la drop la;");
         Checks.due("missed(), with a report of the kind's other node", inner.missed(), 0);
+        LockWatch both = Checks.watchOf(KEPT + "task u off take la try la drop la take lb try lb drop lb;");
+        Checks.due("missed(), with a report ahead of another", both.missed(), 0);
+        LockWatch turned = Checks.watchOf(KEPT + "task u off take lb try lb drop lb take la try la drop la;");
+        Checks.due("missed(), with a report behind another", turned.missed(), 0);
         LockWatch other = Checks.watchOf(KEPT + "task u off take lb try lb drop lb;");
         Checks.due("missed(), with a report of another kind", other.missed(), 1);
     }

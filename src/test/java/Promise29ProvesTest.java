@@ -6,6 +6,7 @@ public final class Promise29ProvesTest {
         itCan();
         itCanNot();
         ofTheChainsKindsAlone();
+        byEachSetAlone();
         setsOfTooManyMomentsAside();
         noneForAnotherReport();
         noneIfThereIsNoneSuch();
@@ -53,6 +54,29 @@ public final class Promise29ProvesTest {
                 "take lb inner lc drop lc drop lb", "take la take la"));
         Checks.due("report(0, 0)", inner.report(0, 0), 3);
         Checks.due("proves(0): by the kind's other node, too", inner.proves(0), 1);
+    }
+
+    private static void byEachSetAlone() {
+        Checks.test("promise 29, by the first set and by the last");
+        String[] gated = {"take lc take la take lb drop lb drop la drop lc", "take lc take lb take la drop la drop lb drop lc"};
+        LockWatch first = ran(Texts.kindsAndLocks(3) + Texts.tasks("take la take la", gated[0], gated[1]));
+        Checks.due("report(2, 0)", first.report(2, 0), 3);
+        Checks.due("least()", first.least(), 1);
+        Checks.due("proves(2), by the set 1", first.proves(2), 1);
+        LockWatch only = ran(Texts.kindsAndLocks(2) + Texts.tasks("take la take lb drop la drop lb take lb take la take la"));
+        Checks.due("report(0, 0)", only.report(0, 0), 3);
+        Checks.due("proves(0), by the only set", only.proves(0), 1);
+        LockWatch last = ran(Texts.kindsAndLocks(3) + Texts.tasks(gated[0], gated[1], "on", "on", "on", "take lb take lb"));
+        Checks.due("report(0, 0)", last.report(0, 0), 3);
+        Checks.due("proves(0), by the set 32", last.proves(0), 1);
+        LockWatch all = ran(Texts.kindsAndLocks(6) + Texts.tasks("take la take lb", "take lb take lc", "take lc take ld", "take ld take le",
+                "take le take lf", "take lf take la"));
+        int ring = -1;
+        for (int r = 0; r < all.about(4); r++) {
+            ring = all.report(r, 0) == 3 ? r : ring;
+        }
+        Checks.due("least()", all.least(), 63);
+        Checks.due("proves(), by the set 63", all.proves(ring), 1);
     }
 
     private static void setsOfTooManyMomentsAside() {

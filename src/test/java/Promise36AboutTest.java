@@ -6,6 +6,8 @@ public final class Promise36AboutTest {
         eachNumber();
         edgesUpToAll();
         chainsAndThoseThatCameAgain();
+        rowsThatAreUnlike();
+        manyChains();
         actsUpToTwelve();
         bytesUpTo900();
         noneForAnotherWhat();
@@ -66,6 +68,55 @@ public final class Promise36AboutTest {
         x.undo();
         Checks.due("about(6)", x.about(6), 119);
         Checks.due("about(7)", x.about(7), 41);
+    }
+
+    /** Of ten locks of one kind: rows that differ in how long they are, or in one node, alone. */
+    private static void rowsThatAreUnlike() {
+        Checks.test("promise 36, what 5: rows are like if they have like nodes and are as long");
+        String ten = "take la take lb take lc take ld take le take lf take lg take lh take li take lj";
+        LockWatch x = Checks.watchOf(Texts.kinds(1) + Texts.locks(10, 1) + Texts.tasks(ten, ten.replace("take", "inner"), ten.replace("take", "share"),
+                ten.replace("take lj", "inner lj"), ten.replace("take la", "inner la")));
+        int[] chains = {10, 20, 20, 21, 30};
+        int[] again = {0, 0, 10, 19, 20};
+        for (int p = 0; p < 5; p++) {
+            x.runs(p);
+            Checks.due("about(5) behind runs(" + p + ")", x.about(5), chains[p]);
+            Checks.due("about(6) behind runs(" + p + ")", x.about(6), again[p]);
+        }
+        LockWatch last = Checks.watchOf(Texts.kindsAndLocks(8) + Texts.tasks("take la inner lh drop la drop lh inner lh drop lh take lh inner la"));
+        last.runs(0);
+        Checks.due("about(5): 0; 0 15; 15; 14; 14 1", last.about(5), 5);
+        Checks.due("about(6)", last.about(6), 0);
+        LockWatch held = Checks.watchOf(Texts.kindsAndLocks(8) + Texts.tasks("take la inner lh take lb drop la drop lh drop lb inner lh take lb"));
+        held.runs(0);
+        Checks.due("about(5): 0; 0 15; 0 15 2; 15; 15 2", held.about(5), 5);
+    }
+
+    private static void manyChains() {
+        Checks.test("promise 36, what 5: as many as come");
+        LockWatch x = Checks.watchOf(Texts.kinds(8) + Texts.locks(8, 8) + Texts.tasks("take la take lb take lc take ld take le take lf take lg take lh"));
+        int chains = 8;
+        x.runs(0);
+        for (int step = 0; step < 7; step++) {
+            x.swap(0, step);
+            x.runs(0);
+            chains += 8 - step;
+            Checks.due("about(5), la in place " + (step + 1), x.about(5), chains);
+        }
+        for (int turn = 0; turn < 6; turn++) {
+            x.swap(0, turn);
+            x.swap(0, 6 - turn);
+            x.runs(0);
+        }
+        Checks.due("about(5) and about(6): all that came", x.about(5) + x.about(6), 8 * 14);
+        int all = x.about(5);
+        x.image(0);
+        x.forget();
+        Checks.due("about(5) behind forget()", x.about(5), 0);
+        x.undo();
+        Checks.due("about(5) behind undo()", x.about(5), all);
+        x.back(0);
+        Checks.due("about(5) behind back()", x.about(5), all);
     }
 
     private static void actsUpToTwelve() {

@@ -12,6 +12,8 @@ public final class Terms1StoreTest {
         wordsAreOfAToZ();
         theSignIsOne();
         asLongAsCanBe();
+        blanksAheadOfANameAreNoPartOfIt();
+        cutWordsAtTheTapesEnd();
         ownWordsAreNoNames();
         eightKinds();
         tenLocks();
@@ -98,6 +100,27 @@ public final class Terms1StoreTest {
         Checks.due("program(0, 1) of off on", Checks.watchOf("task t off on;").program(0, 1), 2);
         Checks.due("about(0) of signs without blanks", Checks.watchOf("kind a;kind b;").about(0), 2);
         Checks.due("about(0) of signs with blanks", Checks.watchOf("kind a ; kind b\n;\n").about(0), 2);
+    }
+
+    private static void blanksAheadOfANameAreNoPartOfIt() {
+        Checks.test("terms 1, blanks aside: a name is the same behind any");
+        Checks.dueFault("kind\na;lock\nx of a;task t take x;", 0, -1);
+        Checks.dueFault("kind a;lock x of\na;task t take\nx;", 0, -1);
+        Checks.dueFault("kind\na;kind a;", 2, 12);
+        Checks.dueFault("kind a;kind\n\na;", 2, 13);
+    }
+
+    /** No byte behind the last one is looked at. */
+    private static void cutWordsAtTheTapesEnd() {
+        Checks.test("terms 1, a word that ends where the tape does");
+        for (String word : OWN_WORDS) {
+            for (int cut = 1; cut <= word.length(); cut++) {
+                String begin = word.substring(0, cut);
+                boolean line = begin.equals("kind") || begin.equals("lock") || begin.equals("task") || begin.equals("soft") || begin.equals("hard");
+                Checks.dueFault(" ".repeat(900 - cut) + begin, 1, line ? 900 : 900 - cut);
+                Checks.dueFault(" ".repeat(899 - cut) + begin, 1, line ? 899 : 899 - cut);
+            }
+        }
     }
 
     private static void ownWordsAreNoNames() {

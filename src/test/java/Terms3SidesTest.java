@@ -38,13 +38,25 @@ public final class Terms3SidesTest {
                 boolean waits = second.equals("take") || second.equals("inner") || second.equals("share") && !first.equals("share");
                 dueSide(LOCKS + "task t " + first + " x " + second + " x;", waits ? 1 : 0, waits ? 1 : -1, waits ? 2 : 3);
             }
-            dueSide(LOCKS + "task t " + first + " x drop x take x;", 0, -1, 4);
+            for (String second : TAKES) {
+                dueSide(LOCKS + "task t " + first + " x drop x " + second + " x;", 0, -1, 4);
+            }
         }
     }
 
     /** t has x and wants y, u has y and wants x. */
     private static void anotherWaits() {
         Checks.test("terms 3, waits: for what another holds or shares");
+        for (int lock = 0; lock < 9; lock++) {
+            String one = "l" + Texts.letter(lock);
+            String other = "l" + Texts.letter(lock + 1);
+            LockWatch x = Checks.watchOf(Texts.kinds(2) + Texts.locks(10, 2) + Texts.tasks("take " + one + " share " + other, "take " + other + " share " + one));
+            Checks.due("stuck(3, 0) of locks " + lock + ", " + (lock + 1), x.stuck(3, 0), 1);
+            Checks.due("stuck(3, 4)", x.stuck(3, 4), 3 << lock);
+            LockWatch y = Checks.watchOf(Texts.kinds(2) + Texts.locks(10, 2) + Texts.tasks("share " + one + " share " + other, "share " + other + " share " + one));
+            Checks.due("stuck(3, 0), shared", y.stuck(3, 0), 0);
+            Checks.due("stuck(3, 2), shared", y.stuck(3, 2), 9);
+        }
         for (String has : TAKES) {
             for (String wants : TAKES) {
                 boolean waits = wants.equals("take") || wants.equals("inner") || wants.equals("share") && !has.equals("share");
@@ -74,6 +86,9 @@ public final class Terms3SidesTest {
         Checks.due("stuck(3, 1)", x.stuck(3, 1), 3);
         LockWatch shared = Checks.watchOf(LOCKS + "task t share x take y drop y drop x;task u take y drop x take x drop x drop y;");
         Checks.due("stuck(3, 0), shared", shared.stuck(3, 0), 1);
+        LockWatch held = Checks.watchOf(LOCKS + "task t take x on;hard h drop x share x drop x;");
+        Checks.due("stuck(3, 0): it is held as ahead", held.stuck(3, 0), 1);
+        Checks.due("stuck(3, 1)", held.stuck(3, 1), 3);
     }
 
     private static void aDropOfOneSharer() {
