@@ -5,6 +5,7 @@ public final class Promise01NewTest {
         nothingCanBeDone();
         itIsAsAnEmptyStore();
         eachIsNew();
+        upToThe512thCall();
         Checks.finish();
     }
 
@@ -73,6 +74,31 @@ public final class Promise01NewTest {
         LockWatch x = new LockWatch();
         for (int what = 0; what <= 10; what++) {
             Checks.due("about(" + what + ")", x.about(what), 0);
+        }
+    }
+
+    /** Runs of steps that change places: up to the last call all is counted as at first. */
+    private static void upToThe512thCall() {
+        Checks.test("promise 1, an object is used for at most 512 calls");
+        for (int last = 510; last <= 512; last++) {
+            LockWatch x = new LockWatch();
+            int[] numbers = Checks.numbersOf("kind a;kind b;lock x of a;lock y of b;task t take x take y drop y drop x;");
+            for (int i = 0; i < numbers.length; i += 5) {
+                x.feed(numbers[i], numbers[i + 1], numbers[i + 2], numbers[i + 3], numbers[i + 4]);
+            }
+            x.store();
+            int calls = numbers.length / 5 + 1;
+            int runs = 0;
+            while (calls < last - 1) {
+                runs += calls % 2;
+                if (calls % 2 == 1) {
+                    x.runs(0);
+                } else {
+                    x.swap(0, calls / 2 % 3);
+                }
+                calls++;
+            }
+            Checks.due("about(7), call " + last, x.about(7), runs);
         }
     }
 }

@@ -6,6 +6,7 @@ public final class Promise05FaultTest {
         theFirstAndTheLastPlace();
         ofTheLatestStore();
         noneForAnotherWhat();
+        whatIsRefusedChangesNothing();
         Checks.finish();
     }
 
@@ -88,6 +89,14 @@ public final class Promise05FaultTest {
             for (int what : States.FAR) {
                 Checks.due(state.name() + ": fault(" + what + ")", x.fault(what), -1);
             }
+        }
+    }
+
+    private static void whatIsRefusedChangesNothing() {
+        Checks.test("promise 5, what is refused changes nothing");
+        for (States.State state : States.ALL) {
+            Twins.dueRefused(state, "fault(-1)", x -> x.fault(-1), -1);
+            Twins.dueRefused(state, "fault(2)", x -> x.fault(2), -1);
         }
     }
 }

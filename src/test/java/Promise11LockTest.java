@@ -4,6 +4,7 @@ public final class Promise11LockTest {
         fromTheFirstToTheLast();
         theFirstAndTheLastKind();
         noneIfThereIsNoneSuch();
+        whatIsRefusedChangesNothing();
         Checks.finish();
     }
 
@@ -41,5 +42,13 @@ public final class Promise11LockTest {
         LockWatch fewer = States.FULL.make();
         fewer.store();
         Checks.due("lock(0): none in a store told later", fewer.lock(0), -1);
+    }
+
+    private static void whatIsRefusedChangesNothing() {
+        Checks.test("promise 11, what is refused changes nothing");
+        for (States.State state : States.ALL) {
+            Twins.dueRefused(state, "lock(-1)", x -> x.lock(-1), -1);
+            Twins.dueRefused(state, "lock(locks())", x -> x.lock(state.locks()), -1);
+        }
     }
 }

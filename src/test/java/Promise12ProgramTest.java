@@ -6,6 +6,7 @@ public final class Promise12ProgramTest {
         howManyRuns();
         noneIfThereIsNoneSuch();
         noneForAnotherWhat();
+        whatIsRefusedChangesNothing();
         Checks.finish();
     }
 
@@ -75,6 +76,15 @@ public final class Promise12ProgramTest {
             for (int far : States.FAR) {
                 Checks.due("program(" + p + ", " + far + ")", x.program(p, far), -1);
             }
+        }
+    }
+
+    private static void whatIsRefusedChangesNothing() {
+        Checks.test("promise 12, what is refused changes nothing");
+        for (States.State state : States.ALL) {
+            Twins.dueRefused(state, "program(-1, 0)", x -> x.program(-1, 0), -1);
+            Twins.dueRefused(state, "program(programs(), 1)", x -> x.program(state.programs(), 1), -1);
+            Twins.dueRefused(state, "program(0, 3)", x -> x.program(0, 3), -1);
         }
     }
 }

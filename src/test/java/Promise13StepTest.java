@@ -8,6 +8,7 @@ public final class Promise13StepTest {
         fromTheFirstToTheLast();
         missingIfThereIsNoneSuch();
         missingForAnotherWhat();
+        whatIsRefusedChangesNothing();
         Checks.finish();
     }
 
@@ -75,6 +76,15 @@ public final class Promise13StepTest {
             for (int far : States.FAR) {
                 Checks.due("step(0, " + step + ", " + far + ")", x.step(0, step, far), -2);
             }
+        }
+    }
+
+    private static void whatIsRefusedChangesNothing() {
+        Checks.test("promise 13, what is refused changes nothing");
+        for (States.State state : States.ALL) {
+            Twins.dueRefused(state, "step(programs(), 0, 0)", x -> x.step(state.programs(), 0, 0), -2);
+            Twins.dueRefused(state, "step(0, 12, 0)", x -> x.step(0, 12, 0), -2);
+            Twins.dueRefused(state, "step(0, 0, 2)", x -> x.step(0, 0, 2), -2);
         }
     }
 }

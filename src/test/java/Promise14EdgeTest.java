@@ -6,6 +6,7 @@ public final class Promise14EdgeTest {
         noneIfItWasNotLearnt();
         noneForAnotherWhat();
         noneOfNoSuchNode();
+        whatIsRefusedChangesNothing();
         Checks.finish();
     }
 
@@ -83,6 +84,15 @@ public final class Promise14EdgeTest {
             }
             Checks.due(state.name() + ": edge(0, 18, 0), one row on", x.edge(0, 18, 0), -1);
             Checks.due(state.name() + ": edge(-1, 18, 0), one row back", x.edge(-1, 18, 0), -1);
+        }
+    }
+
+    private static void whatIsRefusedChangesNothing() {
+        Checks.test("promise 14, what is refused changes nothing");
+        for (States.State state : States.ALL) {
+            Twins.dueRefused(state, "edge(-1, 0, 0)", x -> x.edge(-1, 0, 0), -1);
+            Twins.dueRefused(state, "edge(0, 16, 0)", x -> x.edge(0, 16, 0), -1);
+            Twins.dueRefused(state, "edge(0, 2, 2)", x -> x.edge(0, 2, 2), -1);
         }
     }
 }

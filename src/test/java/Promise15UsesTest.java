@@ -7,6 +7,7 @@ public final class Promise15UsesTest {
         allBits();
         theFirstAndTheLastNode();
         zeroIfThereIsNoneSuch();
+        whatIsRefusedChangesNothing();
         Checks.finish();
     }
 
@@ -71,5 +72,13 @@ public final class Promise15UsesTest {
         LockWatch few = Checks.watchOf(LOCK + Texts.tasks("take la"));
         few.runs(0);
         Checks.due("uses(2): of a kind that there is not", few.uses(2), 0);
+    }
+
+    private static void whatIsRefusedChangesNothing() {
+        Checks.test("promise 15, what is refused changes nothing");
+        for (States.State state : States.ALL) {
+            Twins.dueRefused(state, "uses(-1)", x -> x.uses(-1), 0);
+            Twins.dueRefused(state, "uses(16)", x -> x.uses(16), 0);
+        }
     }
 }

@@ -8,6 +8,7 @@ public final class Promise16WayTest {
         noneIfThereIsNoWay();
         noneOfNoSuchNode();
         theShortestAndTheLeast();
+        whatIsRefusedChangesNothing();
         Checks.finish();
     }
 
@@ -113,5 +114,15 @@ public final class Promise16WayTest {
                 "take la take ld drop la take le drop ld drop le"));
         Checks.due("way(0, 8, -1)", shorter.way(0, 8, -1), 2);
         Checks.due("way(0, 8, 1): not by the least node", shorter.way(0, 8, 1), 6);
+    }
+
+    private static void whatIsRefusedChangesNothing() {
+        Checks.test("promise 16, what is refused changes nothing");
+        for (States.State state : States.ALL) {
+            Twins.dueRefused(state, "way(-1, 0, -1)", x -> x.way(-1, 0, -1), -1);
+            Twins.dueRefused(state, "way(0, 16, -1)", x -> x.way(0, 16, -1), -1);
+            Twins.dueRefused(state, "way(0, 2, -2)", x -> x.way(0, 2, -2), -1);
+            Twins.dueRefused(state, "way(15, 14, -1)", x -> x.way(15, 14, -1), -1);
+        }
     }
 }

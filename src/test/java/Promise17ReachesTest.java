@@ -5,6 +5,7 @@ public final class Promise17ReachesTest {
         itselfByARingAlone();
         theFirstAndTheLastNode();
         zeroIfThereIsNoneSuch();
+        whatIsRefusedChangesNothing();
         Checks.finish();
     }
 
@@ -62,6 +63,14 @@ public final class Promise17ReachesTest {
             for (int far : States.FAR) {
                 Checks.due(state.name() + ": reaches(" + far + ")", x.reaches(far), 0);
             }
+        }
+    }
+
+    private static void whatIsRefusedChangesNothing() {
+        Checks.test("promise 17, what is refused changes nothing");
+        for (States.State state : States.ALL) {
+            Twins.dueRefused(state, "reaches(-1)", x -> x.reaches(-1), 0);
+            Twins.dueRefused(state, "reaches(16)", x -> x.reaches(16), 0);
         }
     }
 }

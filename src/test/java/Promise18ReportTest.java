@@ -9,6 +9,7 @@ public final class Promise18ReportTest {
         keptAtTheEnd();
         noneIfThereIsNoneSuch();
         noneForAnotherWhat();
+        whatIsRefusedChangesNothing();
         Checks.finish();
     }
 
@@ -136,6 +137,15 @@ public final class Promise18ReportTest {
             for (int far : States.FAR) {
                 Checks.due("report(" + r + ", " + far + ")", x.report(r, far), -1);
             }
+        }
+    }
+
+    private static void whatIsRefusedChangesNothing() {
+        Checks.test("promise 18, what is refused changes nothing");
+        for (States.State state : States.ALL) {
+            Twins.dueRefused(state, "report(-1, 0)", x -> x.report(-1, 0), -1);
+            Twins.dueRefused(state, "report(reports(), 0)", x -> x.report(state.reports(), 0), -1);
+            Twins.dueRefused(state, "report(0, 6)", x -> x.report(0, 6), -1);
         }
     }
 }

@@ -5,6 +5,7 @@ public final class Promise19ChainTest {
         ofARing();
         ofSeventeenNodes();
         noneOfNoSuchReport();
+        whatIsRefusedChangesNothing();
         Checks.finish();
     }
 
@@ -62,6 +63,15 @@ public final class Promise19ChainTest {
                 }
             }
             Checks.due(state.name() + ": the last one", x.chain(state.reports() - 1, 0) >= 0, state.reports() > 0);
+        }
+    }
+
+    private static void whatIsRefusedChangesNothing() {
+        Checks.test("promise 19, what is refused changes nothing");
+        for (States.State state : States.ALL) {
+            Twins.dueRefused(state, "chain(-1, 0)", x -> x.chain(-1, 0), -1);
+            Twins.dueRefused(state, "chain(reports(), 0)", x -> x.chain(state.reports(), 0), -1);
+            Twins.dueRefused(state, "chain(0, 17)", x -> x.chain(0, 17), -1);
         }
     }
 }

@@ -7,6 +7,7 @@ public final class Promise20WouldTest {
         nothingIsDone();
         noneIfThereIsNoneSuch();
         noneForAnotherWhat();
+        whatIsRefusedChangesNothing();
         Checks.finish();
     }
 
@@ -99,6 +100,15 @@ public final class Promise20WouldTest {
         Checks.due("would(0, 3)", x.would(0, 3), -1);
         for (int far : States.FAR) {
             Checks.due("would(0, " + far + ")", x.would(0, far), -1);
+        }
+    }
+
+    private static void whatIsRefusedChangesNothing() {
+        Checks.test("promise 20, what is refused changes nothing");
+        for (States.State state : States.ALL) {
+            Twins.dueRefused(state, "would(-1, 0)", x -> x.would(-1, 0), -1);
+            Twins.dueRefused(state, "would(programs(), 0)", x -> x.would(state.programs(), 0), -1);
+            Twins.dueRefused(state, "would(0, 3)", x -> x.would(0, 3), -1);
         }
     }
 }

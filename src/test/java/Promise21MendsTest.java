@@ -9,6 +9,7 @@ public final class Promise21MendsTest {
         theLeastAndTheGreatestEdge();
         throughAllNodes();
         noneForAnotherWhat();
+        whatIsRefusedChangesNothing();
         Checks.finish();
     }
 
@@ -126,6 +127,14 @@ public final class Promise21MendsTest {
             for (int far : States.FAR) {
                 Checks.due(state.name() + ": mends(" + far + ")", x.mends(far), -1);
             }
+        }
+    }
+
+    private static void whatIsRefusedChangesNothing() {
+        Checks.test("promise 21, what is refused changes nothing");
+        for (States.State state : States.ALL) {
+            Twins.dueRefused(state, "mends(-1)", x -> x.mends(-1), -1);
+            Twins.dueRefused(state, "mends(2)", x -> x.mends(2), -1);
         }
     }
 }

@@ -7,6 +7,7 @@ public final class Promise22OrderTest {
         eachTimeTheLeast();
         noneIfThereIsARing();
         noneIfThereIsNoneSuch();
+        whatIsRefusedChangesNothing();
         Checks.finish();
     }
 
@@ -73,6 +74,14 @@ public final class Promise22OrderTest {
             for (int far : States.FAR) {
                 Checks.due(state.name() + ": order(" + far + ")", x.order(far), -1);
             }
+        }
+    }
+
+    private static void whatIsRefusedChangesNothing() {
+        Checks.test("promise 22, what is refused changes nothing");
+        for (States.State state : States.ALL) {
+            Twins.dueRefused(state, "order(-1)", x -> x.order(-1), -1);
+            Twins.dueRefused(state, "order(16)", x -> x.order(16), -1);
         }
     }
 }

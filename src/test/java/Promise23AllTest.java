@@ -7,6 +7,7 @@ public final class Promise23AllTest {
         sixtyInAll();
         fromNothingLearnt();
         noneForAnotherSort();
+        whatIsRefusedChangesNothing();
         Checks.finish();
     }
 
@@ -82,6 +83,14 @@ public final class Promise23AllTest {
             for (int far : States.FAR) {
                 Checks.due(state.name() + ": all(" + far + ")", x.all(far), -1);
             }
+        }
+    }
+
+    private static void whatIsRefusedChangesNothing() {
+        Checks.test("promise 23, what is refused changes nothing");
+        for (States.State state : States.ALL) {
+            Twins.dueRefused(state, "all(0)", x -> x.all(0), -1);
+            Twins.dueRefused(state, "all(10)", x -> x.all(10), -1);
         }
     }
 }

@@ -12,6 +12,7 @@ public final class Promise24StuckTest {
         moreThan4000Moments();
         noneForAnotherWhat();
         nothingIsLearntByIt();
+        whatIsRefusedChangesNothing();
         Checks.finish();
     }
 
@@ -140,5 +141,15 @@ public final class Promise24StuckTest {
         x.undo();
         Checks.due("stuck(3, 1) behind undo()", x.stuck(3, 1), 2);
         Checks.due("about(3)", x.about(3), 0);
+    }
+
+    private static void whatIsRefusedChangesNothing() {
+        Checks.test("promise 24, what is refused changes nothing");
+        for (States.State state : States.ALL) {
+            Twins.dueRefused(state, "stuck(0, 0)", x -> x.stuck(0, 0), -1);
+            Twins.dueRefused(state, "stuck(1 << programs(), 0)", x -> x.stuck(1 << state.programs(), 0), -1);
+            Twins.dueRefused(state, "stuck(1, 5)", x -> x.stuck(1, 5), -1);
+            Twins.dueRefused(state, "stuck(-1, 2)", x -> x.stuck(-1, 2), -1);
+        }
     }
 }

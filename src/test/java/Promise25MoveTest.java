@@ -11,6 +11,7 @@ public final class Promise25MoveTest {
         missingOfTooManyMoments();
         missingForAnotherWhat();
         ofOneSetBehindAnother();
+        whatIsRefusedChangesNothing();
         Checks.finish();
     }
 
@@ -110,6 +111,16 @@ public final class Promise25MoveTest {
             dueMoves(x, 7, 0, 10);
             Checks.due("eased(2, 0)", x.eased(2, 0), 0);
             dueMoves(x, 7, 0, 10);
+        }
+    }
+
+    private static void whatIsRefusedChangesNothing() {
+        Checks.test("promise 25, what is refused changes nothing");
+        for (States.State state : States.ALL) {
+            Twins.dueRefused(state, "move(0, 0, 0)", x -> x.move(0, 0, 0), -2);
+            Twins.dueRefused(state, "move(1 << programs(), 0, 0)", x -> x.move(1 << state.programs(), 0, 0), -2);
+            Twins.dueRefused(state, "move(3, -1, 0)", x -> x.move(3, -1, 0), -2);
+            Twins.dueRefused(state, "move(3, 0, 2)", x -> x.move(3, 0, 2), -2);
         }
     }
 }

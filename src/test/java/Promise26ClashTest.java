@@ -6,6 +6,7 @@ public final class Promise26ClashTest {
         onlyTheseTwoTasks();
         noneIfOneCanNotBe();
         noneOfTooManyMoments();
+        whatIsRefusedChangesNothing();
         Checks.finish();
     }
 
@@ -67,6 +68,15 @@ public final class Promise26ClashTest {
             LockWatch x = Checks.watchOf(texts[i]);
             Checks.due("clash(0, 1) of " + (3999 + i), x.clash(0, 1), i < 2 ? 0 : -1);
             Checks.due("clash(1, 0) of " + (3999 + i), x.clash(1, 0), i < 2 ? 0 : -1);
+        }
+    }
+
+    private static void whatIsRefusedChangesNothing() {
+        Checks.test("promise 26, what is refused changes nothing");
+        for (States.State state : States.ALL) {
+            Twins.dueRefused(state, "clash(0, 0)", x -> x.clash(0, 0), -1);
+            Twins.dueRefused(state, "clash(-1, 0)", x -> x.clash(-1, 0), -1);
+            Twins.dueRefused(state, "clash(0, programs())", x -> x.clash(0, state.programs()), -1);
         }
     }
 }

@@ -11,6 +11,7 @@ public final class Promise29ProvesTest {
         noneForAnotherReport();
         noneIfThereIsNoneSuch();
         goesByStepsAsTheyAre();
+        whatIsRefusedChangesNothing();
         Checks.finish();
     }
 
@@ -129,5 +130,13 @@ public final class Promise29ProvesTest {
         Checks.due("proves(0)", x.proves(0), 0);
         x.undo();
         Checks.due("proves(0) behind undo()", x.proves(0), 1);
+    }
+
+    private static void whatIsRefusedChangesNothing() {
+        Checks.test("promise 29, what is refused changes nothing");
+        for (States.State state : States.ALL) {
+            Twins.dueRefused(state, "proves(-1)", x -> x.proves(-1), -1);
+            Twins.dueRefused(state, "proves(reports())", x -> x.proves(state.reports()), -1);
+        }
     }
 }

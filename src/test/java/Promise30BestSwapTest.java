@@ -10,6 +10,7 @@ public final class Promise30BestSwapTest {
         theFirstAndTheLastPlace();
         nothingIsDone();
         noneForAnotherWhat();
+        whatIsRefusedChangesNothing();
         Checks.finish();
     }
 
@@ -83,6 +84,14 @@ public final class Promise30BestSwapTest {
         LockWatch x = Checks.watchOf(Texts.kindsAndLocks(2) + Texts.tasks(ONE, OTHER));
         for (int far : States.FAR) {
             Checks.due("bestSwap(" + far + ")", x.bestSwap(far), -1);
+        }
+    }
+
+    private static void whatIsRefusedChangesNothing() {
+        Checks.test("promise 30, what is refused changes nothing");
+        for (States.State state : States.ALL) {
+            Twins.dueRefused(state, "bestSwap(-1)", x -> x.bestSwap(-1), -1);
+            Twins.dueRefused(state, "bestSwap(3)", x -> x.bestSwap(3), -1);
         }
     }
 }

@@ -10,6 +10,7 @@ public final class Promise31EasedTest {
         noneOfTooManyMomentsThen();
         stuckNowAndTooManyThen();
         ofAllPrograms();
+        whatIsRefusedChangesNothing();
         Checks.finish();
     }
 
@@ -110,5 +111,14 @@ public final class Promise31EasedTest {
         LockWatch third = Checks.watchOf(TWO + "task pc take la take la drop la;");
         Checks.due("eased(0, 0)", third.eased(0, 0), 0);
         Checks.due("eased(2, 1)", third.eased(2, 1), 0);
+    }
+
+    private static void whatIsRefusedChangesNothing() {
+        Checks.test("promise 31, what is refused changes nothing");
+        for (States.State state : States.ALL) {
+            Twins.dueRefused(state, "eased(-1, 0)", x -> x.eased(-1, 0), -1);
+            Twins.dueRefused(state, "eased(programs(), 0)", x -> x.eased(state.programs(), 0), -1);
+            Twins.dueRefused(state, "eased(0, 11)", x -> x.eased(0, 11), -1);
+        }
     }
 }

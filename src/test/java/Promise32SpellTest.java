@@ -13,6 +13,7 @@ public final class Promise32SpellTest {
         allDeedsThatTake();
         noneIfThereIsNoneSuch();
         noneForAnotherWhat();
+        whatIsRefusedChangesNothing();
         Checks.finish();
     }
 
@@ -125,6 +126,15 @@ public final class Promise32SpellTest {
         LockWatch x = States.LEARNT.make();
         for (int far : States.FAR) {
             Checks.due("spell(0, 0, " + far + ")", x.spell(0, 0, far), -1);
+        }
+    }
+
+    private static void whatIsRefusedChangesNothing() {
+        Checks.test("promise 32, what is refused changes nothing");
+        for (States.State state : States.ALL) {
+            Twins.dueRefused(state, "spell(programs(), 0, 0)", x -> x.spell(state.programs(), 0, 0), -1);
+            Twins.dueRefused(state, "spell(0, locks(), 0)", x -> x.spell(0, state.locks(), 0), -1);
+            Twins.dueRefused(state, "spell(0, 0, 3)", x -> x.spell(0, 0, 3), -1);
         }
     }
 }

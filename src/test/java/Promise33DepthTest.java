@@ -11,6 +11,7 @@ public final class Promise33DepthTest {
         inASoftAndInAHardOne();
         noneIfThereIsNoneSuch();
         noneForAnotherWhat();
+        whatIsRefusedChangesNothing();
         Checks.finish();
     }
 
@@ -97,6 +98,15 @@ public final class Promise33DepthTest {
         LockWatch x = States.LEARNT.make();
         for (int far : States.FAR) {
             Checks.due("depth(0, " + far + ")", x.depth(0, far), -1);
+        }
+    }
+
+    private static void whatIsRefusedChangesNothing() {
+        Checks.test("promise 33, what is refused changes nothing");
+        for (States.State state : States.ALL) {
+            Twins.dueRefused(state, "depth(-1, 0)", x -> x.depth(-1, 0), -1);
+            Twins.dueRefused(state, "depth(programs(), 0)", x -> x.depth(state.programs(), 0), -1);
+            Twins.dueRefused(state, "depth(0, 3)", x -> x.depth(0, 3), -1);
         }
     }
 }

@@ -11,6 +11,7 @@ public final class Promise36AboutTest {
         actsUpToTwelve();
         bytesUpTo900();
         noneForAnotherWhat();
+        whatIsRefusedChangesNothing();
         Checks.finish();
     }
 
@@ -163,6 +164,14 @@ public final class Promise36AboutTest {
             for (int far : States.FAR) {
                 Checks.due(state.name() + ": about(" + far + ")", x.about(far), -1);
             }
+        }
+    }
+
+    private static void whatIsRefusedChangesNothing() {
+        Checks.test("promise 36, what is refused changes nothing");
+        for (States.State state : States.ALL) {
+            Twins.dueRefused(state, "about(-1)", x -> x.about(-1), -1);
+            Twins.dueRefused(state, "about(11)", x -> x.about(11), -1);
         }
     }
 }
