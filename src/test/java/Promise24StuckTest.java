@@ -4,6 +4,7 @@ public final class Promise24StuckTest {
 
     public static void main(String[] args) {
         theyCanBeStuck();
+        behindManyMoves();
         theyCanNot();
         noTaskInIt();
         noSuchProgram();
@@ -34,6 +35,13 @@ public final class Promise24StuckTest {
         dueStuck(Checks.watchOf(Texts.kindsAndLocks(1) + Texts.tasks("take la take la")), 1, 1, 1, 2, 1, 1);
         dueStuck(Checks.watchOf(Texts.kinds(8) + Texts.locks(10, 8) + Texts.tasks("take lj take lj")), 1, 1, 1, 2, 1, 512);
         dueStuck(Checks.watchOf(Texts.kindsAndLocks(1) + Texts.tasks(Texts.ons(10) + " take la take la")), 1, 1, 11, 12, 1, 1);
+    }
+
+    private static void behindManyMoves() {
+        Checks.test("promise 24, the fewest moves to it: 33, 44, 55");
+        dueStuck(Checks.watchOf(Texts.longRing(3)), 7, 1, 33, 218, 7, 14);
+        dueStuck(Checks.watchOf(Texts.longRing(4)), 15, 1, 44, 694, 15, 30);
+        dueStuck(Checks.watchOf(Texts.longRing(5)), 31, 1, 55, 2072, 31, 62);
     }
 
     private static void theyCanNot() {

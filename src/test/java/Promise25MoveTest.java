@@ -5,6 +5,7 @@ public final class Promise25MoveTest {
     public static void main(String[] args) {
         theFirstAndTheLast();
         ofOneMove();
+        aLongWay();
         whoComes();
         missingIfItCanNotBeStuck();
         missingOfNoSet();
@@ -41,6 +42,17 @@ public final class Promise25MoveTest {
         LockWatch last = Checks.watchOf(Texts.kindsAndLocks(1) + Texts.tasks("on", "on", "on", "on", "on", "take la take la"));
         dueMoves(last, 63, 50);
         dueMoves(last, 32, 50);
+    }
+
+    private static void aLongWay() {
+        Checks.test("promise 25, a way of 33, 44, 55 moves");
+        for (int tasks = 3; tasks <= 5; tasks++) {
+            int[] moves = new int[11 * tasks];
+            for (int i = 0; i < moves.length; i++) {
+                moves[i] = i / 11 * 10;
+            }
+            dueMoves(Checks.watchOf(Texts.longRing(tasks)), (1 << tasks) - 1, moves);
+        }
     }
 
     private static void whoComes() {

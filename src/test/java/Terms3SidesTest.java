@@ -172,6 +172,24 @@ public final class Terms3SidesTest {
         dueSide(LOCKS + "task t take x;task u take x;", 0, -1, 3);
         LockWatch x = Checks.watchOf(LOCKS + "task t take x on;task u take x drop x;task p take x;");
         Checks.due("stuck(7, 0)", x.stuck(7, 0), 0);
+        for (int lock = 0; lock < 10; lock++) {
+            for (int keeper = 0; keeper < 6; keeper++) {
+                keptByOneForAnother("l" + Texts.letter(lock), keeper);
+            }
+        }
+    }
+
+    private static void keptByOneForAnother(String lock, int keeper) {
+        for (int other = 0; other < 6; other++) {
+            if (other != keeper) {
+                String[] steps = {"on", "on", "on", "on", "on", "on"};
+                steps[keeper] = "take " + lock;
+                steps[other] = "share " + lock;
+                LockWatch x = Checks.watchOf(Texts.kinds(1) + Texts.locks(10, 1) + Texts.tasks(steps));
+                Checks.due("stuck(63, 0), " + keeper + " keeps " + lock + " from " + other, x.stuck(63, 0), 0);
+                Checks.due("stuck(63, 2)", x.stuck(63, 2), 16 * 3);
+            }
+        }
     }
 
     private static void aRingOfOne() {

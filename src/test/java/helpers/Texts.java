@@ -78,6 +78,18 @@ final class Texts {
         return kindsAndLocks(5) + programs;
     }
 
+    /**
+     * Tasks in a ring, each of twelve steps: all but the last within a hold of la, which they come to one
+     * by one, so that a long way has few moments. Eleven moves of each lead to what is stuck.
+     */
+    static String longRing(int tasks) {
+        String[] steps = new String[tasks];
+        for (int i = 0; i < tasks; i++) {
+            steps[i] = "take la" + ons(8) + " take l" + letter(1 + i) + " drop la take l" + letter(1 + (i + 1) % tasks);
+        }
+        return kinds(1) + locks(tasks + 1, 1) + tasks(steps);
+    }
+
     static String ons(int count) {
         return " on".repeat(count);
     }
